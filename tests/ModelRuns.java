@@ -20,6 +20,7 @@ public final class ModelRuns {
         for (int run = 1; run <= runs && wrong == 0; run++) {
             new Driver(run).go();
         }
+        new Driver(0).longWays();
         for (String name : Driver.NAMES) {
             if (wrong == 0 && good.getOrDefault(name, 0) < runs / 30) {
                 wrong++;
@@ -878,6 +879,36 @@ public final class ModelRuns {
             furnish();
             for (int i = 0; i < n && wrong == 0; i++) {
                 step();
+            }
+        }
+
+        /** RESTS by 100 TURNS, and by 101, that the other runs don't meet with. */
+        void longWays() {
+            longWay(new int[] {0, 0, 8, 9, 0, 0, 1, 9, 8, 2, 2, 2, 3, 1, 5, 0}, 40, 0, 47, 8, 30, 2);
+            new Driver(0).longWay(new int[] {0, 0, 6, 9, 0, 0, 1, 9, 5, 3, 3, 9, 2, 6, 2, 9},
+                40, 0, 38, 3, 9, 2, 18, 4, 35, 7);
+        }
+
+        void longWay(int[] windows, int... lodgers) {
+            for (int i = 0; i < windows.length; i += 2) {
+                call("window", windows[i], windows[i + 1]);
+            }
+            call("cord", 3);
+            call("cord", 12);
+            call("cord", 112);
+            for (int i = 0; i < lodgers.length; i += 2) {
+                call("lodger", lodgers[i], lodgers[i + 1]);
+            }
+            for (char sign : "9+10*n-n%2*(o+n-9)-!(n%2)*(18-o-n)".toCharArray()) {
+                call("feed", sign, 1);
+            }
+            call("text", 0);
+            call("hour", 12);
+            for (int k = 0; k < 3; k++) {
+                call("rests");
+                for (int i = 0; i < lodgers.length / 2; i++) {
+                    call("turn", i);
+                }
             }
         }
 

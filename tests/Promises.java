@@ -369,6 +369,8 @@ public final class Promises {
         due(worth("c<7|c>7"), 0);
         due(worth("c>h&p"), 1);
         due(worth("c|0"), 1);
+        due(worth("(0|c)"), 1);
+        due(worth("(0&c|0)*5+(1|0)*2"), 2);
         due(worth("c&0|h"), 1);
         due(worth("0&0|0&1"), 0);
         due(worth("1|0&0"), 1);
@@ -537,17 +539,20 @@ public final class Promises {
                 open[other]--;
             }
         }
-        due(x.loose(60), 0);
+        due(x.loose(1), 0);
+        due(x.loose(59), 0);
         for (int i = 0; i < 8; i++) {
             due(x.ofWindow(i, 1), open[i]);
         }
         due(x.count(11), z);
         due(x.count(3), 12);
+        due(x.loose(100), 0);
+        x.loose(20);
 
         promise = 24;
         due(x.hour(23), 12);
         due(x.hour(0), 23);
-        due(x.count(4), 2);
+        due(x.count(4), 7);
         beyond(x.hour(24), x.hour(-1));
         due(x.count(3), 0);
 
@@ -570,6 +575,18 @@ public final class Promises {
         due(x.count(6), 0);
     }
 
+    /** CORDS, LODGERS (km, room, km, room, ..) and a law of AIR that goes to and fro by rows. */
+    private static void wind(OneOfTwo x, int... lodgers) {
+        x.cord(3);
+        x.cord(12);
+        x.cord(112);
+        for (int i = 0; i < lodgers.length; i += 2) {
+            x.lodger(lodgers[i], lodgers[i + 1]);
+        }
+        x.hour(12);
+        due(text(x, 0, "9+10*n-n%2*(o+n-9)-!(n%2)*(18-o-n)"), 1);
+    }
+
     private static void whatWouldBe() {
         promise = 26;
         OneOfTwo x = new OneOfTwo();
@@ -590,6 +607,17 @@ public final class Promises {
         x.lodger(28, 0);
         due(x.rests(), NONE);
         due(x.told(2), 1);
+        // A FEVERED one leads AIR along a winding way, and others behind it: 100 TURNS, and 101.
+        x = house(0, 0, 8, 9, 0, 0, 1, 9, 8, 2, 2, 2, 3, 1, 5, 0);
+        wind(x, 40, 0, 47, 8, 30, 2);
+        due(x.rests(), 100);
+        x = house(0, 0, 6, 9, 0, 0, 1, 9, 5, 3, 3, 9, 2, 6, 2, 9);
+        wind(x, 40, 0, 38, 3, 9, 2, 18, 4, 35, 7);
+        due(x.rests(), NONE);
+        for (int i = 0; i < 5; i++) {
+            x.turn(i);
+        }
+        due(x.rests(), 100);
 
         promise = 27;
         x = house(0, 0, 5, 9);
@@ -755,7 +783,29 @@ public final class Promises {
         due(x.who(1), NONE);
         due(x.who(2), NONE);
         beyond(x.who(4), x.who(-1));
+        // A WINDOW on no CORD, be it the first, has to be as it was.
+        x = house(4, 4, 0, 2, 8, 9);
+        x.cord(6);
+        x.lodger(20, 0);
+        x.sheet(0, 32, 3);
+        x.put(0, 0, 4);
+        x.put(0, 1, 2);
+        x.put(0, 2, 9);
+        x.turn(0);
+        due(x.who(0), 1);
+        x.put(0, 0, 3);
+        due(x.who(0), 0);
+        // As it stands, without a PULL: nobody.
+        x = house(0, 3, 8, 9);
+        x.cord(3);
+        x.lodger(20, 0);
+        x.sheet(0, 8, 2);
+        x.put(0, 0, 3);
+        x.put(0, 1, 9);
+        due(x.content(), 1);
+        due(x.who(0), 0);
         x = new OneOfTwo();
+        due(x.who(0), NONE);
         x.sheet(0, 8, 0);
         due(x.who(0), 0);
     }
@@ -1011,6 +1061,10 @@ public final class Promises {
         }
         due(x.check(), 10);
         due(x.count(9), 0);
+        for (int i = 0; i < 10; i++) {
+            x.tell(i < 9 ? air[i] : 1);
+        }
+        due(x.check(), 10);
 
         promise = 44;
         x.lodger(0, 0);
