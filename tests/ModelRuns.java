@@ -717,12 +717,7 @@ public final class ModelRuns {
                     int set = 0;
                     for (int i = 0; i < lodgers.size(); i++) {
                         Model m = copy();
-                        m.stand(sheets[a]);
-                        boolean can = true;
-                        for (int v : sheets[a]) {
-                            can &= in(v, 0, 9);
-                        }
-                        set |= can && m.turn(i) > 0 && Arrays.equals(m.row(), row()) ? 1 << i : 0;
+                        set |= m.turn(i) > 0 && Arrays.equals(m.row(), sheets[a]) ? 1 << i : 0;
                     }
                     return set;
                 }
@@ -990,16 +985,18 @@ public final class ModelRuns {
             }
             int n = model.windows.size() + (random.nextInt(6) == 0 ? 1 : 0);
             call("sheet", sheet, many[1 + random.nextInt(3)], n);
-            int[] row = model.row();
+            Model then = model.copy();
+            int lodgers = model.lodgers.size();
+            if (lodgers > 0 && random.nextInt(4) > 0) {
+                then.turn(random.nextInt(lodgers));
+            }
+            int[] row = then.row();
             for (int i = 0; i < n; i++) {
                 call("put", sheet, i, i < row.length && random.nextInt(30) > 0 ? row[i] : anyInt());
             }
             call("judge", sheet);
-            if (random.nextInt(2) == 0) {
-                call("turn", aLodger());
-            } else {
-                call("pull", aWindow(), aWindow());
-            }
+            call("who", sheet);
+            call("turn", aLodger());
             call("who", sheet);
             call("judge", sheet);
         }

@@ -754,20 +754,20 @@ public final class Promises {
         due(x.helps(0), 2);
 
         promise = 32;
-        // At amen WINDOW 0 was OPEN by 2, now by 3: the SMOKER did it, not the LODGER.
+        // At amen WINDOW 0 is OPEN by 3, now by 2: one SMOKER or the other, not the LODGER.
         x = house(0, 2, 8, 9, 4, 4);
         x.cord(3);
         x.lodger(0, 0);
         x.lodger(20, 0);
         x.lodger(20, 0);
         x.sheet(0, 8, 3);
-        x.put(0, 0, 2);
-        x.put(0, 1, 9);
+        x.put(0, 0, 3);
+        x.put(0, 1, 8);
         x.put(0, 2, 4);
-        due(x.who(0), 0);
-        due(x.turn(1), 1);
         due(x.who(0), 6);
-        due(x.ofWindow(0, 1), 3);
+        due(x.who(0), 6);
+        due(x.ofWindow(0, 1), 2);
+        due(x.ofWindow(1, 1), 9);
         x.put(0, 2, 5);
         due(x.who(0), 0);
         x.put(0, 2, 4);
@@ -777,24 +777,68 @@ public final class Promises {
         due(x.who(0), 6);
         x.put(0, 0, 10);
         due(x.who(0), 0);
+        x.put(0, 0, 3);
         x.sheet(1, 32, 2);
         due(x.who(1), NONE);
         x.sheet(1, 32, 4);
         due(x.who(1), NONE);
         due(x.who(2), NONE);
-        beyond(x.who(4), x.who(-1));
-        // A WINDOW on no CORD, be it the first, has to be as it was.
+        beyond(x.who(4), x.who(-1), x.who(MIN), x.who(MAX));
+        // What stood ahead is not what the SHEET tells: behind the TURN nobody PULLS.
+        due(x.turn(1), 1);
+        due(x.judge(0), -1);
+        due(x.who(0), 0);
+        x.put(0, 0, 2);
+        x.put(0, 1, 9);
+        due(x.who(0), 0);
+        // The run of issue 5.
+        x = house(0, 0, 1, 3);
+        x.cord(3);
+        x.lodger(0, 0);
+        x.sheet(0, 8, 2);
+        x.put(0, 0, 1);
+        x.put(0, 1, 2);
+        due(x.who(0), 1);
+        // A WINDOW on no CORD, be it the first, stays as it is.
         x = house(4, 4, 0, 2, 8, 9);
         x.cord(6);
         x.lodger(20, 0);
         x.sheet(0, 32, 3);
         x.put(0, 0, 4);
-        x.put(0, 1, 2);
-        x.put(0, 2, 9);
-        x.turn(0);
+        x.put(0, 1, 3);
+        x.put(0, 2, 8);
         due(x.who(0), 1);
         x.put(0, 0, 3);
         due(x.who(0), 0);
+        x.put(0, 0, 260);
+        due(x.who(0), 0);
+        // By one TURN alone: all PULLS of a STRONG one, but not two LODGERS' TURNS.
+        x = house(0, 2, 8, 9);
+        x.cord(3);
+        x.lodger(20, 0);
+        x.lodger(54, 0);
+        x.lodger(29, 0);
+        x.sheet(0, 16, 2);
+        x.put(0, 0, 4);
+        x.put(0, 1, 7);
+        due(x.who(0), 2);
+        x.put(0, 0, 3);
+        x.put(0, 1, 8);
+        due(x.who(0), 5);
+        x.become(1, 20);
+        x.put(0, 0, 4);
+        x.put(0, 1, 7);
+        due(x.who(0), 0);
+        // In the HOUR as it is: a SLEEPER in the night PULLS nothing.
+        x = house(0, 0, 8, 9);
+        x.cord(3);
+        x.lodger(30, 0);
+        x.sheet(0, 8, 2);
+        x.put(0, 0, 1);
+        x.put(0, 1, 8);
+        due(x.who(0), 0);
+        x.hour(6);
+        due(x.who(0), 1);
         // As it stands, without a PULL: nobody.
         x = house(0, 3, 8, 9);
         x.cord(3);

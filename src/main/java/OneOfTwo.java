@@ -417,7 +417,7 @@ public final class OneOfTwo {
         }
         int set = 0;
         for (int lodger = 0; lodger < house.lodgers; lodger++) {
-            if (couldHavePulled(lodger, row)) {
+            if (wouldStandSo(lodger, row)) {
                 set |= 1 << lodger;
             }
         }
@@ -514,13 +514,7 @@ public final class OneOfTwo {
         if (row.bits == 0) {
             return error(NONE);
         }
-        int both = Math.min(row.length, house.windows);
-        for (int i = 0; i < both; i++) {
-            if (row.cells[i] != house.open[i]) {
-                return i;
-            }
-        }
-        return row.length == house.windows ? -1 : both;
+        return house.firstUnlike(row);
     }
 
     public int image() {
@@ -667,17 +661,10 @@ public final class OneOfTwo {
         return Integer.bitCount(aside.contentSet());
     }
 
-    /** Whether a LODGER's TURN leads from what the SHEET tells to what stands now. */
-    private boolean couldHavePulled(int lodger, Row row) {
+    /** Whether WINDOWS would stand as a SHEET tells behind a LODGER's TURN, with a PULL at least. */
+    private boolean wouldStandSo(int lodger, Row row) {
         aside.copyFrom(house);
-        for (int i = 0; i < house.windows; i++) {
-            // No WINDOW can have stood so: nothing led from there.
-            if (!isNotch(row.cells[i])) {
-                return false;
-            }
-            aside.open[i] = row.cells[i];
-        }
-        return aside.turnOf(lodger) > 0 && aside.standsAs(house);
+        return aside.turnOf(lodger) > 0 && aside.firstUnlike(row) < 0;
     }
 
     /** A row of numbers in a place that is made once: a SHEET (of bits), a TAPE, a TRACE. */
@@ -843,13 +830,15 @@ public final class OneOfTwo {
             return all;
         }
 
-        boolean standsAs(House other) {
-            for (int i = 0; i < windows; i++) {
-                if (open[i] != other.open[i]) {
-                    return false;
+        /** The first WINDOW that isn't OPEN as a SHEET tells, one that lacks or is too many, too; or -1. */
+        int firstUnlike(Row row) {
+            int both = Math.min(row.length, windows);
+            for (int i = 0; i < both; i++) {
+                if (row.cells[i] != open[i]) {
+                    return i;
                 }
             }
-            return true;
+            return row.length == windows ? -1 : both;
         }
 
         boolean isLocked() {
