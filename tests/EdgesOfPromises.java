@@ -1381,7 +1381,7 @@ public final class EdgesOfPromises extends Edge {
             x.check();
             x.text(0);
             law(x, 0, "1");
-            law(x, 1, "2");
+            law(x, 1, "7");
             due(x.restore(), 21);
             due(row(x), row);
             due(x.count(0), 8);

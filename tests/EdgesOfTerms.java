@@ -1,3 +1,4 @@
+import java.util.Arrays;
 import java.util.function.ToIntFunction;
 
 /** Each sentence of the document's terms that names a boundary case, by a test of its own. */
@@ -17,6 +18,7 @@ public final class EdgesOfTerms extends Edge {
         restsAndAhead();
         standings();
         fewestAndMost();
+        searches();
         helps();
         whoPulled();
         draws();
@@ -849,6 +851,11 @@ public final class EdgesOfTerms extends Edge {
             due(worth("!1+1"), 1);
             due(worth("!0=1"), 1);
             due(worth("(1+2)*3"), 9);
+            due(worth("(0|5)"), 1);
+            due(worth("3*(0|5)+(1&0)"), 3);
+            due(worth("(1<2)+(2>1)*(3=3)"), 2);
+            due(worth("9-(3-2)"), 8);
+            due(worth("64/(8/2)"), 16);
         });
     }
 
@@ -879,6 +886,18 @@ public final class EdgesOfTerms extends Edge {
             due(x.air(6), 5);
             due(x.air(7), 10);
             due(x.air(8), 5);
+        });
+        edge("h HOUR", () -> {
+            // Each TEXT and each HOUR has its own AIR.
+            OneOfTwo x = house(4, 3);
+            for (int i = 0; i < 24; i++) {
+                law(x, 0, "h*2+o+" + i);
+                x.hour(23 - i);
+                due(x.air(4), 2 * (23 - i) + 3 + i);
+                x.hour((i + 5) % 24);
+                due(x.air(4), 2 * ((i + 5) % 24) + 3 + i);
+                due(x.air(3), 2 * ((i + 5) % 24) + i);
+            }
         });
         edge("h HOUR; held within 0 to 99", () -> {
             OneOfTwo x = new OneOfTwo();
@@ -1107,6 +1126,15 @@ public final class EdgesOfTerms extends Edge {
             due(x.fewest(-1), 0);
             due(x.fewest(1), 9);
             due(new OneOfTwo().fewest(-1), 0);
+            // LODGERS, but no WINDOWS: AIR is 0.
+            x = new OneOfTwo();
+            x.lodger(10, 4);
+            due(x.fewest(-1), 0);
+            due(x.most(-2), 1);
+            x.lodger(0, 4);
+            due(x.fewest(-1), NONE);
+            due(x.most(-2), 1);
+            due(x.most(-1), 0);
         });
         edge("(LOCKED or not); of several the least as a row of WINDOWS", () -> {
             OneOfTwo x = turned("", 28, cords(3), 4, 0, 8, 9);
@@ -1165,6 +1193,162 @@ public final class EdgesOfTerms extends Edge {
             due(x.most(1), 8);
             due(x.fewest(-1), NONE);
         });
+    }
+
+    private static void searches() {
+        edge("STANDINGS: all ways in which WINDOWS", () -> {
+            // Each pair of ROOMS that a CORD can join, about a LODGER of the ROOM in the midst, and at the ends.
+            for (int first = 0; first < 9; first++) {
+                for (int other = 0; other < 9; other++) {
+                    for (int room : new int[] {0, 4, 8}) {
+                        Search s = new Search("", first, 2, other, 7);
+                        s.cords = cords(3);
+                        s.lodgers = cords(28, room);
+                        s.check();
+                        s.lodgers = cords(44, room);
+                        s.check();
+                    }
+                }
+            }
+        });
+        edge("(a WINDOW on no CORD, or SWOLLEN, as it is). FEWEST", () -> {
+            for (int set : cords(3, 5, 6, 7)) {
+                for (int swollen = 0; swollen < 8; swollen++) {
+                    Search s = new Search("", 3, 4, 4, 1, 5, 6);
+                    s.cords = cords(set);
+                    s.swollen = swollen;
+                    s.lodgers = cords(29, 4, 12, 3);
+                    s.check();
+                    s.lodgers = cords(0, 4, 29, 5);
+                    s.check();
+                }
+            }
+        });
+        edge("of several the least as a row of WINDOWS. MOST", () -> {
+            Search s = new Search("", 0, 3, 8, 6, 0, 2, 8, 7, 1, 9, 7, 0, 4, 5, 4, 4);
+            s.cords = cords(3, 12, 48, 192);
+            s.lodgers = cords(29, 0, 29, 8, 10, 4, 40, 7, 1, 1, 33, 4);
+            s.check();
+            s = new Search("(o>2)*(o<7)*5+n/5", 8, 3, 0, 9, 7, 2, 1, 9, 8, 9, 0, 0, 4, 5, 4, 4);
+            s.cords = cords(3, 12, 48, 192);
+            s.lodgers = cords(0, 0, 0, 8, 0, 4);
+            s.check();
+            s = new Search("", 0, 9, 8, 9, 7, 9, 0, 0, 1, 0, 8, 0);
+            s.cords = cords(7, 56);
+            s.lodgers = cords(10, 0, 29, 8);
+            s.check();
+            s = new Search("", 0, 5, 8, 4, 4, 5, 4, 4, 1, 3, 7, 2, 0, 9, 8, 9);
+            s.cords = cords(137, 22);
+            s.swollen = 32 + 4;
+            s.lodgers = cords(10, 0, 29, 8, 49, 4, 69, 1);
+            s.check();
+        });
+    }
+
+    /** FEWEST and MOST by going through all rows, each as an object of its own that tells who is CONTENT. */
+    private static final class Search {
+        final String law;
+        final int[] rooms;
+        final int[] open;
+        int[] cords = {};
+        int[] lodgers = {};
+        int swollen = 0;
+        int mostContent = -1;
+        int fewestPulls = 0;
+        int[] best = {};
+
+        Search(String law, int... windows) {
+            this.law = law;
+            rooms = new int[windows.length / 2];
+            open = new int[windows.length / 2];
+            for (int i = 0; i < open.length; i++) {
+                rooms[i] = windows[2 * i];
+                open[i] = windows[2 * i + 1];
+            }
+        }
+
+        OneOfTwo standing(int[] row) {
+            OneOfTwo x = new OneOfTwo();
+            for (int i = 0; i < row.length; i++) {
+                x.window(rooms[i], row[i]);
+                x.swell(i, swollen >> i & 1);
+            }
+            for (int set : cords) {
+                x.cord(set);
+            }
+            for (int i = 0; i < lodgers.length; i += 2) {
+                x.lodger(lodgers[i], lodgers[i + 1]);
+            }
+            if (!law.isEmpty()) {
+                feed(x, law);
+                x.text(0);
+            }
+            x.hour(12);
+            return x;
+        }
+
+        void check() {
+            mostContent = -1;
+            go(0, open.clone());
+            OneOfTwo x = standing(open);
+            boolean all = mostContent == lodgers.length / 2;
+            due(x.most(-2), mostContent);
+            due(x.most(-1), fewestPulls);
+            due(x.fewest(-1), all ? fewestPulls : NONE);
+            for (int i = 0; i < open.length; i++) {
+                due(x.most(i), best[i]);
+                due(x.fewest(i), all ? best[i] : NONE);
+            }
+            due(x.ofWindow(0, 1), open[0]);
+        }
+
+        void go(int cord, int[] row) {
+            if (cord == cords.length) {
+                judge(row);
+                return;
+            }
+            int set = cords[cord] & ~swollen;
+            fill(cord, set, together(set, open), row);
+        }
+
+        /** All ways to share what is left of a CORD among a set, in order as rows. */
+        void fill(int cord, int set, int left, int[] row) {
+            if (set == 0) {
+                if (left == 0) {
+                    go(cord + 1, row);
+                }
+                return;
+            }
+            int window = Integer.numberOfTrailingZeros(set);
+            for (int v = 0; v <= Math.min(9, left); v++) {
+                int[] next = row.clone();
+                next[window] = v;
+                fill(cord, set & set - 1, left - v, next);
+            }
+        }
+
+        int together(int set, int[] row) {
+            int all = 0;
+            for (int i = 0; i < row.length; i++) {
+                all += (set >> i & 1) * row[i];
+            }
+            return all;
+        }
+
+        void judge(int[] row) {
+            int pulls = 0;
+            for (int i = 0; i < row.length; i++) {
+                pulls += Math.max(0, row[i] - open[i]);
+            }
+            int content = Integer.bitCount(standing(row).content());
+            boolean better = content > mostContent || content == mostContent && pulls < fewestPulls
+                || content == mostContent && pulls == fewestPulls && Arrays.compare(row, best) < 0;
+            if (better) {
+                mostContent = content;
+                fewestPulls = pulls;
+                best = row;
+            }
+        }
     }
 
     private static void helps() {
@@ -1329,6 +1513,7 @@ public final class EdgesOfTerms extends Edge {
             drawnDue(seeds[2 * 8 + 1], 555);
             drawnDue(seeds[1 * 8 + 1], 555);
             drawnDue(seeds[0 * 8 + 3], 555);
+            drawnDue(seeds[3 * 8 + 1], 555);
             drawnDue(seeds[7 * 8 + 1], 555);
             OneOfTwo x = house(0, 9, 0, 5, 0, 0, 0, 5);
             x.cord(3);
