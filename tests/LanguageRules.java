@@ -128,8 +128,20 @@ public final class LanguageRules {
                 if (m.getParameterCount() > 7) {
                     say(m + " has too many parameters");
                 }
+                if (isOfTheFace(m.getName())) {
+                    say(m + " of a private class bears a public name");
+                }
             }
         }
+    }
+
+    private static boolean isOfTheFace(String name) {
+        for (Method m : OneOfTwo.class.getDeclaredMethods()) {
+            if (Modifier.isPublic(m.getModifiers()) && m.getName().equals(name)) {
+                return true;
+            }
+        }
+        return false;
     }
 
     private static void fields(Class<?> c) {

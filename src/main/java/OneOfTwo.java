@@ -203,9 +203,9 @@ public final class OneOfTwo {
             case 2:
                 return house.at[lodger];
             case 3:
-                return kind.least(house.m[lodger]);
+                return kind.leastAir(house.m[lodger]);
             case 4:
-                return kind.most(house.m[lodger]);
+                return kind.mostAir(house.m[lodger]);
             case 5:
                 return kind.strength();
             case 6:
@@ -923,7 +923,7 @@ public final class OneOfTwo {
 
         boolean isContentBy(int lodger, int air) {
             Lodger who = kind[lodger];
-            boolean within = air >= who.least(m[lodger]) && air <= who.most(m[lodger]);
+            boolean within = air >= who.leastAir(m[lodger]) && air <= who.mostAir(m[lodger]);
             return who.pleased(within, hour);
         }
 
@@ -943,8 +943,8 @@ public final class OneOfTwo {
         }
 
         int farFromWanted(int lodger, int air) {
-            int below = kind[lodger].least(m[lodger]) - air;
-            int above = air - kind[lodger].most(m[lodger]);
+            int below = kind[lodger].leastAir(m[lodger]) - air;
+            int above = air - kind[lodger].mostAir(m[lodger]);
             return Math.max(0, Math.max(below, above));
         }
 
@@ -1392,11 +1392,11 @@ public final class OneOfTwo {
             this.number = number;
         }
 
-        int least(int m) {
+        int leastAir(int m) {
             return 2;
         }
 
-        int most(int m) {
+        int mostAir(int m) {
             return 9 + m;
         }
 
@@ -1435,11 +1435,11 @@ public final class OneOfTwo {
             super(number);
         }
 
-        int least(int m) {
+        int leastAir(int m) {
             return 0;
         }
 
-        int most(int m) {
+        int mostAir(int m) {
             return 3 + m;
         }
 
@@ -1454,11 +1454,11 @@ public final class OneOfTwo {
             super(number);
         }
 
-        int least(int m) {
+        int leastAir(int m) {
             return 5 + m / 2;
         }
 
-        int most(int m) {
+        int mostAir(int m) {
             return 99;
         }
 
@@ -1488,12 +1488,12 @@ public final class OneOfTwo {
             super(number);
         }
 
-        int least(int m) {
+        int leastAir(int m) {
             return 4;
         }
 
-        int most(int m) {
-            return super.most(m) + 1;
+        int mostAir(int m) {
+            return super.mostAir(m) + 1;
         }
 
         int pulls(int n, int m, int x, Row trace) {
